@@ -47,7 +47,7 @@ public final class PromisesTest {
             due("above(w - 1, h - 1)", x.above(w - 1, h - 1), 0);
             due("above(w, 0)", x.above(w, 0), BAD);
             due("above(0, h)", x.above(0, h), BAD);
-            due("state", state(x, w, h), "0".repeat(w) + " " + "0".repeat(h) + " 0 0 0 0");
+            due("state", Cloths.state(x), "0".repeat(w) + " " + "0".repeat(h) + " 0 0 0 0");
         }
     }
 
@@ -58,7 +58,7 @@ public final class PromisesTest {
         due("thread(0, 1)", x.thread(0, 1), 3);
         due("thread(0, 1)", x.thread(0, 1), 1);
         due("thread(2, 2)", x.thread(2, 2), 0);
-        due("state", state(x, 3, 2), "102 00 0 0 0 0");
+        due("state", Cloths.state(x), "102 00 0 0 0 0");
         due("thread(2, 0)", x.thread(2, 0), 2);
         for (int c : new int[] {-1, 3, 8, LOW, HIGH}) {
             due("thread(" + c + ", 3)", x.thread(c, 3), BAD);
@@ -67,11 +67,11 @@ public final class PromisesTest {
             due("thread(1, " + shaft + ")", x.thread(1, shaft), BAD);
         }
         due("thread(-1, 4)", x.thread(-1, 4), BAD);
-        due("state after refusals", state(x, 3, 2), "100 00 0 0 0 0");
+        due("state after refusals", Cloths.state(x), "100 00 0 0 0 0");
         ClothDraft full = new ClothDraft(8, 1);
         due("thread(7, 3)", full.thread(7, 3), 0);
         due("thread(8, 3)", full.thread(8, 3), BAD);
-        due("state", state(full, 8, 1), "00000003 0 0 0 0 0");
+        due("state", Cloths.state(full), "00000003 0 0 0 0 0");
     }
 
     private static void promise3Treadle() {
@@ -81,7 +81,7 @@ public final class PromisesTest {
         due("treadle(0, 1)", x.treadle(0, 1), 3);
         due("treadle(0, 1)", x.treadle(0, 1), 1);
         due("treadle(2, 2)", x.treadle(2, 2), 0);
-        due("state", state(x, 2, 3), "00 102 0 0 0 0");
+        due("state", Cloths.state(x), "00 102 0 0 0 0");
         for (int r : new int[] {-1, 3, 8, LOW, HIGH}) {
             due("treadle(" + r + ", 3)", x.treadle(r, 3), BAD);
         }
@@ -89,11 +89,11 @@ public final class PromisesTest {
             due("treadle(1, " + treadle + ")", x.treadle(1, treadle), BAD);
         }
         due("treadle(-1, 4)", x.treadle(-1, 4), BAD);
-        due("state after refusals", state(x, 2, 3), "00 102 0 0 0 0");
+        due("state after refusals", Cloths.state(x), "00 102 0 0 0 0");
         ClothDraft full = new ClothDraft(1, 8);
         due("treadle(7, 3)", full.treadle(7, 3), 0);
         due("treadle(8, 3)", full.treadle(8, 3), BAD);
-        due("state", state(full, 1, 8), "0 00000003 0 0 0 0");
+        due("state", Cloths.state(full), "0 00000003 0 0 0 0");
     }
 
     private static void promise4Tie() {
@@ -103,11 +103,11 @@ public final class PromisesTest {
         x.treadleAll(0, 1);
         due("tie(0, 15)", x.tie(0, 15), 0);
         due("tie(0, 6)", x.tie(0, 6), 15);
-        due("the ties of treadle 0", column(x, 0, 4), "0110");
+        due("the ties of treadle 0", Cloths.weft(x, 0, 4), "0110");
         due("tie(0, 1)", x.tie(0, 1), 6);
-        due("the ties of treadle 0", column(x, 0, 4), "1000");
+        due("the ties of treadle 0", Cloths.weft(x, 0, 4), "1000");
         due("tie(3, 8)", x.tie(3, 8), 0);
-        due("the ties of treadle 3", column(x, 3, 4), "0001");
+        due("the ties of treadle 3", Cloths.weft(x, 3, 4), "0001");
         due("tie(3, 0)", x.tie(3, 0), 8);
         due("tie(3, 5)", x.tie(3, 5), 0);
         for (int treadle : new int[] {-1, 4, 32, LOW, HIGH}) {
@@ -116,67 +116,67 @@ public final class PromisesTest {
         for (int shafts : new int[] {-1, 16, 17, LOW, HIGH}) {
             due("tie(0, " + shafts + ")", x.tie(0, shafts), BAD);
         }
-        due("state after refusals", state(x, 4, 4), "0123 0123 1 0 0 5");
+        due("state after refusals", Cloths.state(x), "0123 0123 1 0 0 5");
     }
 
     private static void promise5ThreadAll() {
         at = "promise 5, ";
         ClothDraft x = new ClothDraft(8, 2);
         due("threadAll(0, 1)", x.threadAll(0, 1), 0);
-        due("state", state(x, 8, 2), "01230123 00 0 0 0 0");
+        due("state", Cloths.state(x), "01230123 00 0 0 0 0");
         due("threadAll(3, 3)", x.threadAll(3, 3), 0);
-        due("state", state(x, 8, 2), "32103210 00 0 0 0 0");
+        due("state", Cloths.state(x), "32103210 00 0 0 0 0");
         due("threadAll(1, 2)", x.threadAll(1, 2), 0);
-        due("state", state(x, 8, 2), "13131313 00 0 0 0 0");
+        due("state", Cloths.state(x), "13131313 00 0 0 0 0");
         due("threadAll(2, 0)", x.threadAll(2, 0), 0);
-        due("state", state(x, 8, 2), "22222222 00 0 0 0 0");
+        due("state", Cloths.state(x), "22222222 00 0 0 0 0");
         for (int wrong : new int[] {-1, 4, LOW, HIGH}) {
             due("threadAll(" + wrong + ", 1)", x.threadAll(wrong, 1), BAD);
             due("threadAll(1, " + wrong + ")", x.threadAll(1, wrong), BAD);
         }
-        due("state after refusals", state(x, 8, 2), "22222222 00 0 0 0 0");
+        due("state after refusals", Cloths.state(x), "22222222 00 0 0 0 0");
         ClothDraft narrow = new ClothDraft(1, 8);
         due("threadAll(3, 1)", narrow.threadAll(3, 1), 0);
-        due("state", state(narrow, 1, 8), "3 00000000 0 0 0 0");
+        due("state", Cloths.state(narrow), "3 00000000 0 0 0 0");
     }
 
     private static void promise6TreadleAll() {
         at = "promise 6, ";
         ClothDraft x = new ClothDraft(2, 8);
         due("treadleAll(0, 1)", x.treadleAll(0, 1), 0);
-        due("state", state(x, 2, 8), "00 01230123 0 0 0 0");
+        due("state", Cloths.state(x), "00 01230123 0 0 0 0");
         due("treadleAll(3, 3)", x.treadleAll(3, 3), 0);
-        due("state", state(x, 2, 8), "00 32103210 0 0 0 0");
+        due("state", Cloths.state(x), "00 32103210 0 0 0 0");
         due("treadleAll(1, 2)", x.treadleAll(1, 2), 0);
-        due("state", state(x, 2, 8), "00 13131313 0 0 0 0");
+        due("state", Cloths.state(x), "00 13131313 0 0 0 0");
         due("treadleAll(2, 0)", x.treadleAll(2, 0), 0);
-        due("state", state(x, 2, 8), "00 22222222 0 0 0 0");
+        due("state", Cloths.state(x), "00 22222222 0 0 0 0");
         for (int wrong : new int[] {-1, 4, LOW, HIGH}) {
             due("treadleAll(" + wrong + ", 1)", x.treadleAll(wrong, 1), BAD);
             due("treadleAll(1, " + wrong + ")", x.treadleAll(1, wrong), BAD);
         }
-        due("state after refusals", state(x, 2, 8), "00 22222222 0 0 0 0");
+        due("state after refusals", Cloths.state(x), "00 22222222 0 0 0 0");
         ClothDraft low = new ClothDraft(8, 1);
         due("treadleAll(3, 1)", low.treadleAll(3, 1), 0);
-        due("state", state(low, 8, 1), "00000000 3 0 0 0 0");
+        due("state", Cloths.state(low), "00000000 3 0 0 0 0");
     }
 
     private static void promise7Invert() {
         at = "promise 7, ";
         ClothDraft x = new ClothDraft(2, 3);
         due("invert()", x.invert(), 16);
-        due("state", state(x, 2, 3), "00 000 15 15 15 15");
+        due("state", Cloths.state(x), "00 000 15 15 15 15");
         due("invert()", x.invert(), 0);
-        due("state", state(x, 2, 3), "00 000 0 0 0 0");
+        due("state", Cloths.state(x), "00 000 0 0 0 0");
         x.tie(0, 1);
         x.tie(1, 6);
         x.tie(3, 15);
         x.thread(1, 2);
         x.treadle(2, 3);
         due("invert()", x.invert(), 9);
-        due("state", state(x, 2, 3), "02 003 14 9 15 0");
+        due("state", Cloths.state(x), "02 003 14 9 15 0");
         due("invert()", x.invert(), 7);
-        due("state", state(x, 2, 3), "02 003 1 6 0 15");
+        due("state", Cloths.state(x), "02 003 1 6 0 15");
     }
 
     private static void promise8Above() {
@@ -187,8 +187,8 @@ public final class PromisesTest {
         x.treadle(1, 2);
         x.tie(0, 8);
         x.tie(2, 3);
-        due("weft 0", column(x, 0, 3), "010");
-        due("weft 1", column(x, 1, 3), "101");
+        due("weft 0", Cloths.weft(x, 0, 3), "010");
+        due("weft 1", Cloths.weft(x, 1, 3), "101");
         for (int wrong : new int[] {-1, 3, 8, LOW, HIGH}) {
             due("above(" + wrong + ", 0)", x.above(wrong, 0), BAD);
             due("above(0, " + wrong + ")", x.above(0, wrong), BAD);
@@ -199,7 +199,7 @@ public final class PromisesTest {
 
     private static void promise9Longest() {
         at = "promise 9, ";
-        ClothDraft x = cloth("1101", "1000", "1000", "0001", "1000");
+        ClothDraft x = Cloths.cloth("1101", "1000", "1000", "0001", "1000");
         due("longest(0): over over over, under, over", x.longest(0), 3);
         due("longest(1): over, under 4 times", x.longest(1), 4);
         due("longest(2): under throughout", x.longest(2), 5);
@@ -223,7 +223,7 @@ public final class PromisesTest {
 
     private static void promise10Over() {
         at = "promise 10, ";
-        ClothDraft x = cloth("1101", "1000", "1000", "0001", "1000");
+        ClothDraft x = Cloths.cloth("1101", "1000", "1000", "0001", "1000");
         due("over(0)", x.over(0), 4);
         due("over(1)", x.over(1), 1);
         due("over(2)", x.over(2), 0);
@@ -244,10 +244,10 @@ public final class PromisesTest {
     private static void promise11Shafts() {
         at = "promise 11, ";
         due("shafts() of a new cloth", new ClothDraft(8, 8).shafts(), 1);
-        due("shafts(): all alike", cloth("1111", "0000").shafts(), 1);
-        due("shafts(): plain weave", cloth("1010", "0101").shafts(), 2);
-        due("shafts(): four warps of their own", cloth("1100", "1010").shafts(), 4);
-        due("shafts(): first and last alike", cloth("1101", "0100", "0010").shafts(), 3);
+        due("shafts(): all alike", Cloths.cloth("1111", "0000").shafts(), 1);
+        due("shafts(): plain weave", Cloths.cloth("1010", "0101").shafts(), 2);
+        due("shafts(): four warps of their own", Cloths.cloth("1100", "1010").shafts(), 4);
+        due("shafts(): first and last alike", Cloths.cloth("1101", "0100", "0010").shafts(), 3);
         ClothDraft unused = new ClothDraft(8, 8);
         unused.threadAll(0, 1);
         unused.tie(1, 1);
@@ -259,10 +259,10 @@ public final class PromisesTest {
     private static void promise12Treadles() {
         at = "promise 12, ";
         due("treadles() of a new cloth", new ClothDraft(8, 8).treadles(), 1);
-        due("treadles(): all alike", cloth("10", "10", "10").treadles(), 1);
-        due("treadles(): plain weave", cloth("1010", "0101", "1010").treadles(), 2);
-        due("treadles(): four wefts of their own", cloth("11", "10", "01", "00").treadles(), 4);
-        due("treadles(): first and last alike", cloth("101", "011", "110", "101").treadles(), 3);
+        due("treadles(): all alike", Cloths.cloth("10", "10", "10").treadles(), 1);
+        due("treadles(): plain weave", Cloths.cloth("1010", "0101", "1010").treadles(), 2);
+        due("treadles(): four wefts of their own", Cloths.cloth("11", "10", "01", "00").treadles(), 4);
+        due("treadles(): first and last alike", Cloths.cloth("101", "011", "110", "101").treadles(), 3);
         ClothDraft unused = new ClothDraft(8, 8);
         unused.treadleAll(0, 1);
         unused.tie(1, 2);
@@ -275,7 +275,7 @@ public final class PromisesTest {
     private static void promise13Liftable() {
         at = "promise 13, ";
         // Warp 0 is above weft 0 and under weft 1; warp 1 is above both.
-        ClothDraft x = cloth("11", "01");
+        ClothDraft x = Cloths.cloth("11", "01");
         int[] can = {0, 2, 2 + 512, 2 + 512 + 1, 2 + 512 + 1 + 256};
         for (int set = 0; set < 1024; set++) {
             boolean there = (set & ~(3 + 768)) == 0;
@@ -306,27 +306,27 @@ public final class PromisesTest {
         at = "promise 14, ";
         due("hangs() of a new cloth", new ClothDraft(1, 1).hangs(), 0);
         due("hangs() of a new cloth", new ClothDraft(8, 8).hangs(), 0);
-        due("hangs(): the least cloth that does", cloth("10", "01").hangs(), 1);
-        due("hangs(): plain weave", cloth("101", "010", "101").hangs(), 1);
-        due("hangs(): a weft beneath all", cloth("10", "01", "11").hangs(), 0);
-        due("hangs(): two pieces, one on the other", cloth("1011", "0111", "0010", "0001").hangs(), 0);
-        due("hangs(): the two pieces caught", cloth("1011", "0111", "1010", "0001").hangs(), 1);
+        due("hangs(): the least cloth that does", Cloths.cloth("10", "01").hangs(), 1);
+        due("hangs(): plain weave", Cloths.cloth("101", "010", "101").hangs(), 1);
+        due("hangs(): a weft beneath all", Cloths.cloth("10", "01", "11").hangs(), 0);
+        due("hangs(): two pieces, one on the other", Cloths.cloth("1011", "0111", "0010", "0001").hangs(), 0);
+        due("hangs(): the two pieces caught", Cloths.cloth("1011", "0111", "1010", "0001").hangs(), 1);
     }
 
     private static void promise15Layers() {
         at = "promise 15, ";
         due("layers() of a new cloth", new ClothDraft(1, 1).layers(), 2);
         due("layers() of a new cloth", new ClothDraft(8, 8).layers(), 16);
-        due("layers(): all hangs together", cloth("10", "01").layers(), 1);
-        due("layers(): a weft beneath all", cloth("10", "01", "11").layers(), 2);
-        due("layers(): a weft beneath, a warp above", cloth("101", "011", "111").layers(), 3);
-        due("layers(): two pieces, one on the other", cloth("1011", "0111", "0010", "0001").layers(), 2);
-        due("layers(): a stair", cloth("11", "01").layers(), 4);
+        due("layers(): all hangs together", Cloths.cloth("10", "01").layers(), 1);
+        due("layers(): a weft beneath all", Cloths.cloth("10", "01", "11").layers(), 2);
+        due("layers(): a weft beneath, a warp above", Cloths.cloth("101", "011", "111").layers(), 3);
+        due("layers(): two pieces, one on the other", Cloths.cloth("1011", "0111", "0010", "0001").layers(), 2);
+        due("layers(): a stair", Cloths.cloth("11", "01").layers(), 4);
     }
 
     private static void promise16Together() {
         at = "promise 16, ";
-        ClothDraft x = cloth("1011", "0111", "1111", "1111");
+        ClothDraft x = Cloths.cloth("1011", "0111", "1111", "1111");
         due("together(0, 1)", x.together(0, 1), 1);
         due("together(1, 0)", x.together(1, 0), 1);
         due("together(0, 8)", x.together(0, 8), 1);
@@ -342,7 +342,7 @@ public final class PromisesTest {
             due("together(0, " + wrong + ")", x.together(0, wrong), BAD);
             due("together(" + wrong + ", " + wrong + ")", x.together(wrong, wrong), BAD);
         }
-        ClothDraft pieces = cloth("1011", "0111", "0010", "0001");
+        ClothDraft pieces = Cloths.cloth("1011", "0111", "0010", "0001");
         due("together(2, 8): of two pieces", pieces.together(2, 8), 0);
         due("together(2, 11): of one piece", pieces.together(2, 11), 1);
         ClothDraft full = new ClothDraft(8, 8);
@@ -359,11 +359,11 @@ public final class PromisesTest {
         at = "promise 17, ";
         due("lifts() of one crossing", new ClothDraft(1, 1).lifts(), 1);
         due("lifts(): any wefts, or all and any warps", new ClothDraft(8, 8).lifts(), 255 + 255 - 1);
-        due("lifts(): all hangs together", cloth("10", "01").lifts(), 0);
-        due("lifts(): a weft beneath all", cloth("10", "01", "11").lifts(), 1);
-        due("lifts(): a stair", cloth("11", "01").lifts(), 3);
+        due("lifts(): all hangs together", Cloths.cloth("10", "01").lifts(), 0);
+        due("lifts(): a weft beneath all", Cloths.cloth("10", "01", "11").lifts(), 1);
+        due("lifts(): a stair", Cloths.cloth("11", "01").lifts(), 3);
         due("lifts(): any of two warps, the piece, any of two wefts",
-                cloth("1011", "0111", "1111", "1111").lifts(), 3 + 1 + 2);
+                Cloths.cloth("1011", "0111", "1111", "1111").lifts(), 3 + 1 + 2);
     }
 
     private static void promise18Divisions() {
@@ -371,12 +371,12 @@ public final class PromisesTest {
         due("divisions() of one crossing", new ClothDraft(1, 1).divisions(), 1);
         due("divisions(): the most, 8! * 8!", new ClothDraft(8, 8).divisions(), 40320 * 40320);
         due("divisions(): 8! * 1!", new ClothDraft(8, 1).divisions(), 40320);
-        due("divisions(): all hangs together", cloth("10", "01").divisions(), 1);
-        due("divisions(): a weft beneath all", cloth("10", "01", "11").divisions(), 1);
-        due("divisions(): a stair", cloth("11", "01").divisions(), 1);
+        due("divisions(): all hangs together", Cloths.cloth("10", "01").divisions(), 1);
+        due("divisions(): a weft beneath all", Cloths.cloth("10", "01", "11").divisions(), 1);
+        due("divisions(): a stair", Cloths.cloth("11", "01").divisions(), 1);
         due("divisions(): two warps, the piece, two wefts",
-                cloth("1011", "0111", "1111", "1111").divisions(), 4);
-        due("divisions(): three wefts beneath two warps", cloth("11", "11", "11").divisions(), 12);
+                Cloths.cloth("1011", "0111", "1111", "1111").divisions(), 4);
+        due("divisions(): three wefts beneath two warps", Cloths.cloth("11", "11", "11").divisions(), 12);
     }
 
     /** Promises 14 to 18 where the order, or the knot, is made by the last warps and wefts alone. */
@@ -412,7 +412,7 @@ public final class PromisesTest {
         x.treadleAll(2, 1);
         x.tie(0, 9);
         x.tie(2, 7);
-        String before = state(x, 5, 6);
+        String before = Cloths.state(x);
         for (int i = -1; i < 17; i++) {
             x.above(i, i);
             x.longest(i);
@@ -426,7 +426,7 @@ public final class PromisesTest {
         x.layers();
         x.lifts();
         x.divisions();
-        due("state", state(x, 5, 6), before);
+        due("state", Cloths.state(x), before);
     }
 
     private static void objectsAreApart() {
@@ -435,8 +435,8 @@ public final class PromisesTest {
         ClothDraft y = new ClothDraft(3, 1);
         x.invert();
         x.threadAll(1, 1);
-        due("state of the other", state(y, 3, 1), "000 0 0 0 0 0");
-        due("state of the one", state(x, 2, 2), "12 00 15 15 15 15");
+        due("state of the other", Cloths.state(y), "000 0 0 0 0 0");
+        due("state of the one", Cloths.state(x), "12 00 15 15 15 15");
     }
 
     private static void readmeExample() {
@@ -458,57 +458,5 @@ public final class PromisesTest {
 
     private static void due(String call, Object got, Object want) {
         CHECK.due(at + call, got, want);
-    }
-
-    /**
-     * A cloth from its wefts, from the first to the last; in each, character c
-     * is 1 if warp c is above. At most four warps, and four wefts that differ.
-     */
-    private static ClothDraft cloth(String... wefts) {
-        int w = wefts[0].length();
-        ClothDraft made = new ClothDraft(w, wefts.length);
-        made.threadAll(0, 1);
-        int treadles = 0;
-        for (int r = 0; r < wefts.length; r++) {
-            int like = 0;
-            while (!wefts[like].equals(wefts[r])) {
-                like++;
-            }
-            int treadle = like == r ? treadles++ : made.treadle(like, 0);
-            made.treadle(like, treadle);
-            made.treadle(r, treadle);
-            made.tie(treadle, Integer.parseInt(new StringBuilder(wefts[r]).reverse().toString(), 2));
-        }
-        return made;
-    }
-
-    private static String column(ClothDraft x, int r, int w) {
-        StringBuilder text = new StringBuilder();
-        for (int c = 0; c < w; c++) {
-            text.append(x.above(c, r));
-        }
-        return text.toString();
-    }
-
-    /** The threading, the treadling and the ties; each is read by setting it, and then set back. */
-    private static String state(ClothDraft x, int w, int h) {
-        StringBuilder text = new StringBuilder();
-        for (int c = 0; c < w; c++) {
-            int shaft = x.thread(c, 0);
-            x.thread(c, shaft);
-            text.append(shaft);
-        }
-        text.append(" ");
-        for (int r = 0; r < h; r++) {
-            int treadle = x.treadle(r, 0);
-            x.treadle(r, treadle);
-            text.append(treadle);
-        }
-        for (int i = 0; i < 4; i++) {
-            int shafts = x.tie(i, 0);
-            x.tie(i, shafts);
-            text.append(" ").append(shafts);
-        }
-        return text.toString();
     }
 }

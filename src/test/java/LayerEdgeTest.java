@@ -1,0 +1,475 @@
+/** The boundary cases of promises 13 to 18: what can be lifted off, and the layers. */
+public final class LayerEdgeTest {
+    private static final int[] FACTORIAL = {1, 1, 2, 6, 24, 120, 720, 5040, 40320};
+
+    // All threads of 2 warps and 2 wefts, and the sets that can be lifted off of
+    // the cloth of four layers: from above, warp 1, weft 1, warp 0, weft 0.
+    private static final int ALL_4 = 1 + 2 + 256 + 512;
+    private static final int[] LIFTABLE_4 = {0, 2, 2 + 512, 2 + 512 + 1, ALL_4};
+
+    public static void main(String[] args) {
+        Edges.run(LayerEdgeTest.class);
+    }
+
+    private static ClothDraft fourLayers() {
+        return Cloths.cloth("11", "01");
+    }
+
+    private static int bit(boolean holds) {
+        return holds ? 1 : 0;
+    }
+
+    private static int allThreads(int w, int h) {
+        return (1 << w) - 1 + ((1 << h) - 1) * 256;
+    }
+
+    /** One warp and one weft, the weft above, and then the warp above. */
+    private static ClothDraft[] oneCrossing() {
+        ClothDraft warpAbove = new ClothDraft(1, 1);
+        warpAbove.invert();
+        return new ClothDraft[] {new ClothDraft(1, 1), warpAbove};
+    }
+
+    // Promise 13
+
+    @Edge(in = "Promise 13", says = "1 if the set of threads can be lifted off")
+    static void liftableOfTheEmptySetIs1(Check check) {
+        for (int w = 1; w <= 8; w++) {
+            for (int h = 1; h <= 8; h++) {
+                check.due("new: liftable(0)", new ClothDraft(w, h).liftable(0), 1);
+                check.due("stair: liftable(0)", Cloths.stair(w, h).liftable(0), 1);
+                check.due("plain weave: liftable(0)", Cloths.plainWeave(w, h).liftable(0), 1);
+            }
+        }
+    }
+
+    @Edge(in = "Promise 13", says = "1 if the set of threads can be lifted off")
+    static void liftableOfAllThreadsIs1(Check check) {
+        for (int w = 1; w <= 8; w++) {
+            for (int h = 1; h <= 8; h++) {
+                int all = allThreads(w, h);
+                check.due("new: liftable(" + all + ")", new ClothDraft(w, h).liftable(all), 1);
+                check.due("stair: liftable(" + all + ")", Cloths.stair(w, h).liftable(all), 1);
+                check.due("plain weave: liftable(" + all + ")", Cloths.plainWeave(w, h).liftable(all), 1);
+            }
+        }
+    }
+
+    @Edge(in = "Promise 13", says = "1 if the set of threads can be lifted off, else 0")
+    static void liftableOfEverySetOfASmallCloth(Check check) {
+        absentBits(check, 0);
+    }
+
+    @Edge(in = "Promise 13", says = "bits of threads that are not there are not looked at")
+    static void liftableLooksAtNoBitBetweenTheLastWarpAndTheFirstWeft(Check check) {
+        for (int t = 2; t < 8; t++) {
+            absentBits(check, 1 << t);
+        }
+    }
+
+    @Edge(in = "Promise 13", says = "bits of threads that are not there are not looked at")
+    static void liftableLooksAtNoBitBehindTheLastWeft(Check check) {
+        for (int t = 10; t < 16; t++) {
+            absentBits(check, 1 << t);
+        }
+    }
+
+    @Edge(in = "Promise 13", says = "bits of threads that are not there are not looked at")
+    static void liftableLooksAtNoBitFrom16On(Check check) {
+        for (int t = 16; t < 32; t++) {
+            absentBits(check, 1 << t);
+        }
+    }
+
+    @Edge(in = "Promise 13", says = "bits of threads that are not there are not looked at")
+    static void liftableLooksAtNoneOfAllAbsentBits(Check check) {
+        absentBits(check, ~ALL_4);
+    }
+
+    /** Every set of four threads, with these bits added, in a cloth and in that cloth turned over. */
+    private static void absentBits(Check check, int bits) {
+        ClothDraft x = fourLayers();
+        ClothDraft turned = fourLayers();
+        turned.invert();
+        for (int part = 0; part < 16; part++) {
+            int set = part % 4 + part / 4 * 256;
+            int full = set | bits;
+            check.due("liftable(" + full + ")", x.liftable(full), bit(isLiftable4(set)));
+            check.due("turned over, liftable(" + full + ")", turned.liftable(full), bit(isLiftable4(ALL_4 - set)));
+        }
+    }
+
+    private static boolean isLiftable4(int set) {
+        for (int one : LIFTABLE_4) {
+            if (set == one) {
+                return true;
+            }
+        }
+        return false;
+    }
+
+    @Edge(in = "Promise 13", says = "bits of threads that are not there are not looked at")
+    static void liftableOfAbsentThreadsAloneIsThatOfTheEmptySet(Check check) {
+        for (ClothDraft x : oneCrossing()) {
+            for (int set : new int[] {2, 128, 254, 512, 32768, 65024, 65536, Integer.MIN_VALUE, ~257}) {
+                check.due("liftable(" + set + ")", x.liftable(set), 1);
+            }
+        }
+    }
+
+    @Edge(in = "Promise 13", says = "bits of threads that are not there are not looked at")
+    static void liftableOfTheLeastAndTheGreatestNumber(Check check) {
+        ClothDraft x = Cloths.plainWeave(8, 8);
+        check.due("liftable(-1), all threads", x.liftable(-1), 1);
+        check.due("liftable(least), the empty set", x.liftable(Integer.MIN_VALUE), 1);
+        check.due("liftable(greatest), all threads", x.liftable(Integer.MAX_VALUE), 1);
+        check.due("liftable(-2), all but warp 0", x.liftable(-2), 0);
+        check.due("liftable(least + 1), warp 0 alone", x.liftable(Integer.MIN_VALUE + 1), 0);
+    }
+
+    @Edge(in = "Promise 13", says = "1 if the set of threads can be lifted off, else 0")
+    static void liftableOfOneWarpAndOneWeft(Check check) {
+        ClothDraft[] x = oneCrossing();
+        check.due("weft above: liftable(256)", x[0].liftable(256), 1);
+        check.due("weft above: liftable(1)", x[0].liftable(1), 0);
+        check.due("warp above: liftable(256)", x[1].liftable(256), 0);
+        check.due("warp above: liftable(1)", x[1].liftable(1), 1);
+    }
+
+    @Edge(in = "Promise 13", says = "1 if the set of threads can be lifted off, else 0")
+    static void liftableOfOneThreadAndOfAllButOneWhereAllHangs(Check check) {
+        ClothDraft x = Cloths.plainWeave(8, 8);
+        for (int t = 0; t < 16; t++) {
+            check.due("liftable(" + (1 << t) + ")", x.liftable(1 << t), 0);
+            check.due("liftable(" + (65535 - (1 << t)) + ")", x.liftable(65535 - (1 << t)), 0);
+        }
+        check.due("liftable(255), all warps", x.liftable(255), 0);
+        check.due("liftable(65280), all wefts", x.liftable(65280), 0);
+    }
+
+    @Edge(in = "Promise 13", says = "1 if the set of threads can be lifted off, else 0")
+    static void liftableOf8WarpsAnd8Wefts(Check check) {
+        ClothDraft x = new ClothDraft(8, 8);
+        for (int n = 0; n < 8; n++) {
+            int weft = 256 << n;
+            int warp = 1 << n;
+            check.due("liftable(" + weft + "), one weft", x.liftable(weft), 1);
+            check.due("liftable(" + (65280 - weft) + "), all wefts but one", x.liftable(65280 - weft), 1);
+            check.due("liftable(" + warp + "), one warp", x.liftable(warp), 0);
+            check.due("liftable(" + (65280 + warp) + "), all wefts and one warp", x.liftable(65280 + warp), 1);
+            check.due("liftable(" + (65535 - weft) + "), all but one weft", x.liftable(65535 - weft), 0);
+        }
+    }
+
+    // Promises 14 to 18: one warp and one weft
+
+    @Edge(in = "Promise 14", says = "1 if the cloth hangs together, else 0")
+    static void hangsOfOneWarpAndOneWeftIs0(Check check) {
+        for (ClothDraft x : oneCrossing()) {
+            check.due("hangs()", x.hangs(), 0);
+        }
+    }
+
+    @Edge(in = "Promise 15", says = "The greatest k for which there is a division in k layers")
+    static void layersOfOneWarpAndOneWeftIs2(Check check) {
+        for (ClothDraft x : oneCrossing()) {
+            check.due("layers()", x.layers(), 2);
+        }
+    }
+
+    @Edge(in = "Promise 16", says = "1 if the two threads are in the same layer in every division, else 0")
+    static void togetherOfOneWarpAndOneWeftIs0(Check check) {
+        for (ClothDraft x : oneCrossing()) {
+            check.due("together(0, 8)", x.together(0, 8), 0);
+            check.due("together(8, 0)", x.together(8, 0), 0);
+        }
+    }
+
+    @Edge(in = "Promise 17", says = "except the empty one and that of all threads")
+    static void liftsOfOneWarpAndOneWeftIs1(Check check) {
+        for (ClothDraft x : oneCrossing()) {
+            check.due("lifts()", x.lifts(), 1);
+        }
+    }
+
+    @Edge(in = "Promise 18", says = "How many divisions there are in as many layers as layers() says")
+    static void divisionsOfOneWarpAndOneWeftIs1(Check check) {
+        for (ClothDraft x : oneCrossing()) {
+            check.due("divisions()", x.divisions(), 1);
+        }
+    }
+
+    // Promises 14 to 18: one warp, under n of 8 wefts and above the others, and
+    // one weft in the same way
+
+    private static ClothDraft oneWarp(int n) {
+        ClothDraft x = new ClothDraft(1, 8);
+        x.tie(1, 1);
+        for (int r = n; r < 8; r++) {
+            x.treadle(r, 1);
+        }
+        return x;
+    }
+
+    private static ClothDraft oneWeft(int n) {
+        ClothDraft x = new ClothDraft(8, 1);
+        x.tie(0, 1);
+        for (int c = n; c < 8; c++) {
+            x.thread(c, 1);
+        }
+        return x;
+    }
+
+    @Edge(in = "Promise 14", says = "1 if the cloth hangs together, else 0")
+    static void hangsOfOneWarpOrOneWeftIs0(Check check) {
+        for (int n = 0; n <= 8; n++) {
+            check.due("one warp, " + n + " wefts above: hangs()", oneWarp(n).hangs(), 0);
+            check.due("one weft, " + n + " warps above: hangs()", oneWeft(n).hangs(), 0);
+        }
+    }
+
+    @Edge(in = "Promise 15", says = "The greatest k for which there is a division in k layers")
+    static void layersOfOneWarpOrOneWeftIsThatOfTheThreads(Check check) {
+        for (int n = 0; n <= 8; n++) {
+            check.due("one warp, " + n + " wefts above: layers()", oneWarp(n).layers(), 9);
+            check.due("one weft, " + n + " warps above: layers()", oneWeft(n).layers(), 9);
+        }
+    }
+
+    @Edge(in = "Promise 16", says = "1 if the two threads are in the same layer in every division, else 0")
+    static void togetherOfOneWarpOrOneWeftIs0(Check check) {
+        for (int n = 0; n <= 8; n++) {
+            check.due("one warp, " + n + " wefts above: together(0, 15)", oneWarp(n).together(0, 15), 0);
+            check.due("one warp, " + n + " wefts above: together(8, 15)", oneWarp(n).together(8, 15), 0);
+            check.due("one weft, " + n + " warps above: together(7, 8)", oneWeft(n).together(7, 8), 0);
+            check.due("one weft, " + n + " warps above: together(0, 7)", oneWeft(n).together(0, 7), 0);
+        }
+    }
+
+    @Edge(in = "Promise 17", says = "How many sets of threads, except the empty one and that of all threads, can be lifted off")
+    static void liftsOfOneWarpOrOneWeft(Check check) {
+        for (int n = 0; n <= 8; n++) {
+            int due = (1 << n) + (1 << (8 - n)) - 2;
+            check.due("one warp, " + n + " wefts above: lifts()", oneWarp(n).lifts(), due);
+            check.due("one weft, " + n + " warps above: lifts()", oneWeft(n).lifts(), due);
+        }
+    }
+
+    @Edge(in = "Promise 18", says = "How many divisions there are in as many layers as layers() says")
+    static void divisionsOfOneWarpOrOneWeft(Check check) {
+        for (int n = 0; n <= 8; n++) {
+            int due = FACTORIAL[n] * FACTORIAL[8 - n];
+            check.due("one warp, " + n + " wefts above: divisions()", oneWarp(n).divisions(), due);
+            check.due("one weft, " + n + " warps above: divisions()", oneWeft(n).divisions(), due);
+        }
+    }
+
+    // Promises 14 to 18: a cloth that hangs together, from 2 x 2 to 8 x 8
+
+    private static void plainWeaves(Check check, String name, int due) {
+        Call call = Call.named(name);
+        for (int w = 2; w <= 8; w++) {
+            for (int h = 2; h <= 8; h++) {
+                check.due(w + " x " + h + ", plain weave: " + name + "()", call.on(Cloths.plainWeave(w, h), 0, 0), due);
+            }
+        }
+    }
+
+    @Edge(in = "Promise 14", says = "1 if the cloth hangs together")
+    static void hangsOfAClothThatHangsIs1(Check check) {
+        plainWeaves(check, "hangs", 1);
+    }
+
+    @Edge(in = "Promise 15", says = "The greatest k for which there is a division in k layers")
+    static void layersOfAClothThatHangsIs1(Check check) {
+        plainWeaves(check, "layers", 1);
+    }
+
+    @Edge(in = "Promise 16", says = "1 if the two threads are in the same layer in every division")
+    static void togetherOfAClothThatHangsIs1(Check check) {
+        ClothDraft x = Cloths.plainWeave(8, 8);
+        for (int a = 0; a < 16; a++) {
+            for (int b = 0; b < 16; b++) {
+                check.due("together(" + a + ", " + b + ")", x.together(a, b), 1);
+            }
+        }
+    }
+
+    @Edge(in = "Promise 17", says = "except the empty one and that of all threads")
+    static void liftsOfAClothThatHangsIs0(Check check) {
+        plainWeaves(check, "lifts", 0);
+    }
+
+    @Edge(in = "Promise 18", says = "How many divisions there are in as many layers as layers() says")
+    static void divisionsOfAClothThatHangsIs1(Check check) {
+        plainWeaves(check, "divisions", 1);
+    }
+
+    // Promises 14 to 18: one thread, the last, can be lifted off a cloth of 8 x 8
+    // that hangs together but for it
+
+    private static ClothDraft lastWeftAboveAll() {
+        ClothDraft x = Cloths.straight(8, 8, 5, 10, 5, 0);
+        x.treadle(3, 1);
+        return x;
+    }
+
+    @Edge(in = "Promise 14", says = "1 if the cloth hangs together, else 0")
+    static void hangsIs0WhereOneThreadCanBeLifted(Check check) {
+        check.due("hangs()", lastWeftAboveAll().hangs(), 0);
+    }
+
+    @Edge(in = "Promise 15", says = "The greatest k for which there is a division in k layers")
+    static void layersIs2WhereOneThreadCanBeLifted(Check check) {
+        check.due("layers()", lastWeftAboveAll().layers(), 2);
+    }
+
+    @Edge(in = "Promise 16", says = "1 if the two threads are in the same layer in every division, else 0")
+    static void togetherIs0WithTheOneThreadThatCanBeLifted(Check check) {
+        ClothDraft x = lastWeftAboveAll();
+        for (int t = 0; t < 15; t++) {
+            check.due("together(" + t + ", 15)", x.together(t, 15), 0);
+            check.due("together(15, " + t + ")", x.together(15, t), 0);
+            check.due("together(" + t + ", 0)", x.together(t, 0), 1);
+        }
+    }
+
+    @Edge(in = "Promise 17", says = "How many sets of threads, except the empty one and that of all threads, can be lifted off")
+    static void liftsIs1WhereOneThreadCanBeLifted(Check check) {
+        check.due("lifts()", lastWeftAboveAll().lifts(), 1);
+    }
+
+    @Edge(in = "Promise 18", says = "How many divisions there are in as many layers as layers() says")
+    static void divisionsIs1WhereOneThreadCanBeLifted(Check check) {
+        check.due("divisions()", lastWeftAboveAll().divisions(), 1);
+    }
+
+    // Promises 14 to 18: as many layers as there can be. In a new cloth all wefts
+    // are above all warps; in a stair of 8 x 8, two threads follow upon two.
+
+    private static void newCloths(Check check, String name, java.util.function.IntBinaryOperator due) {
+        Call call = Call.named(name);
+        for (int w = 1; w <= 8; w++) {
+            for (int h = 1; h <= 8; h++) {
+                ClothDraft x = new ClothDraft(w, h);
+                check.due(w + " x " + h + ", wefts above: " + name + "()", call.on(x, 0, 0), due.applyAsInt(w, h));
+                x.invert();
+                check.due(w + " x " + h + ", warps above: " + name + "()", call.on(x, 0, 0), due.applyAsInt(w, h));
+            }
+        }
+    }
+
+    @Edge(in = "Promise 14", says = "1 if the cloth hangs together, else 0")
+    static void hangsOfAsManyLayersAsCanBeIs0(Check check) {
+        newCloths(check, "hangs", (w, h) -> 0);
+        check.due("stair: hangs()", Cloths.stair(8, 8).hangs(), 0);
+    }
+
+    @Edge(in = "Promise 15", says = "The greatest k for which there is a division in k layers")
+    static void layersAreAtMostAsManyAsThreads(Check check) {
+        newCloths(check, "layers", (w, h) -> w + h);
+        check.due("stair: layers()", Cloths.stair(8, 8).layers(), 16);
+    }
+
+    @Edge(in = "Promise 16", says = "1 if the two threads are in the same layer in every division, else 0")
+    static void togetherOfAsManyLayersAsCanBeIs0(Check check) {
+        for (ClothDraft x : new ClothDraft[] {new ClothDraft(8, 8), Cloths.stair(8, 8)}) {
+            for (int a = 0; a < 16; a++) {
+                for (int b = 0; b < 16; b++) {
+                    check.due("together(" + a + ", " + b + ")", x.together(a, b), bit(a == b));
+                }
+            }
+        }
+    }
+
+    @Edge(in = "Promise 17", says = "How many sets of threads, except the empty one and that of all threads, can be lifted off")
+    static void liftsOfAsManyLayersAsCanBe(Check check) {
+        newCloths(check, "lifts", (w, h) -> (1 << w) + (1 << h) - 3);
+        check.due("the most there can be: lifts()", new ClothDraft(8, 8).lifts(), 509);
+        check.due("stair: lifts()", Cloths.stair(8, 8).lifts(), 8 * 3 - 1);
+    }
+
+    @Edge(in = "Promise 18", says = "How many divisions there are in as many layers as layers() says")
+    static void divisionsOfAsManyLayersAsCanBe(Check check) {
+        newCloths(check, "divisions", (w, h) -> FACTORIAL[w] * FACTORIAL[h]);
+        check.due("the most there can be: divisions()", new ClothDraft(8, 8).divisions(), 1625702400);
+        check.due("stair: divisions()", Cloths.stair(8, 8).divisions(), 256);
+    }
+
+    @Edge(in = "Promise 18", says = "How many divisions there are in as many layers as layers() says")
+    static void divisionsInFewerLayersAreNotCounted(Check check) {
+        // In one, two, three and four layers there are 1, 3, 3 and 1 divisions.
+        check.due("four layers: divisions()", fourLayers().divisions(), 1);
+    }
+
+    // Promise 16: which threads are there
+
+    private static void absentThreads(Check check, int from, int to, boolean first, boolean second) {
+        for (int w = 1; w <= 8; w++) {
+            for (int h = 1; h <= 8; h++) {
+                ClothDraft x = Cloths.plainWeave(w, h);
+                for (int t = from; t <= to; t++) {
+                    int a = first ? t : 0;
+                    int b = second ? t : 8;
+                    boolean refused = x.together(a, b) == ClothDraft.BAD_ARG;
+                    String call = w + " x " + h + ": together(" + a + ", " + b + ") is refused";
+                    check.due(call, refused, !Cloths.isThread(t, w, h));
+                }
+            }
+        }
+    }
+
+    @Edge(in = "Promise 16", says = "BAD_ARG if one of them is not there")
+    static void togetherRefusesAFirstThreadBelow0(Check check) {
+        absentThreads(check, -3, 0, true, false);
+    }
+
+    @Edge(in = "Promise 16", says = "BAD_ARG if one of them is not there")
+    static void togetherRefusesAFirstThreadBetweenTheLastWarpAndTheFirstWeft(Check check) {
+        absentThreads(check, 0, 8, true, false);
+    }
+
+    @Edge(in = "Promise 16", says = "BAD_ARG if one of them is not there")
+    static void togetherRefusesAFirstThreadBehindTheLastWeft(Check check) {
+        absentThreads(check, 8, 18, true, false);
+    }
+
+    @Edge(in = "Promise 16", says = "BAD_ARG if one of them is not there")
+    static void togetherRefusesASecondThreadBelow0(Check check) {
+        absentThreads(check, -3, 0, false, true);
+    }
+
+    @Edge(in = "Promise 16", says = "BAD_ARG if one of them is not there")
+    static void togetherRefusesASecondThreadBetweenTheLastWarpAndTheFirstWeft(Check check) {
+        absentThreads(check, 0, 8, false, true);
+    }
+
+    @Edge(in = "Promise 16", says = "BAD_ARG if one of them is not there")
+    static void togetherRefusesASecondThreadBehindTheLastWeft(Check check) {
+        absentThreads(check, 8, 18, false, true);
+    }
+
+    @Edge(in = "Promise 16", says = "BAD_ARG if one of them is not there")
+    static void togetherRefusesAThreadWithItselfThatIsNotThere(Check check) {
+        absentThreads(check, -3, 18, true, true);
+    }
+
+    @Edge(in = "Promise 16", says = "BAD_ARG if one of them is not there")
+    static void togetherRefusesFarAway(Check check) {
+        ClothDraft x = Cloths.plainWeave(8, 8);
+        for (int t : new int[] {Integer.MIN_VALUE, Integer.MIN_VALUE + 8, -16, 24, 32, Integer.MAX_VALUE}) {
+            check.refused("together(" + t + ", 8)", x.together(t, 8));
+            check.refused("together(0, " + t + ")", x.together(0, t));
+            check.refused("together(" + t + ", " + t + ")", x.together(t, t));
+        }
+    }
+
+    @Edge(in = "Promise 16", says = "1 if the two threads are in the same layer in every division")
+    static void togetherOfAThreadWithItselfIs1(Check check) {
+        for (ClothDraft x : new ClothDraft[] {new ClothDraft(8, 8), Cloths.stair(8, 8), lastWeftAboveAll()}) {
+            for (int t = 0; t < 16; t++) {
+                check.due("together(" + t + ", " + t + ")", x.together(t, t), 1);
+            }
+        }
+    }
+}
