@@ -344,6 +344,104 @@ public final class LayerEdgeTest {
         check.due("divisions()", lastWeftAboveAll().divisions(), 1);
     }
 
+    // Promises 14 to 18: 8 x 8, where the crossing of the last warp and the last
+    // weft alone holds the cloth together. If the warp is above there as well, it
+    // is above all wefts, and that weft is under all warps.
+
+    private static ClothDraft heldByTheLastCrossing(boolean held) {
+        ClothDraft x = new ClothDraft(8, 8);
+        for (int n = 1; n < 7; n += 2) {
+            x.thread(n, 1);
+            x.treadle(n, 1);
+        }
+        x.thread(7, 3);
+        x.treadle(7, 2);
+        x.tie(0, 1 + 8);
+        x.tie(1, 2 + 8);
+        x.tie(2, held ? 1 + 2 : 1 + 2 + 8);
+        return x;
+    }
+
+    @Edge(in = "Promise 14", says = "1 if the cloth hangs together, else 0")
+    static void hangsByTheLastCrossing(Check check) {
+        check.due("held: hangs()", heldByTheLastCrossing(true).hangs(), 1);
+        check.due("not held: hangs()", heldByTheLastCrossing(false).hangs(), 0);
+    }
+
+    @Edge(in = "Promise 15", says = "The greatest k for which there is a division in k layers")
+    static void layersByTheLastCrossing(Check check) {
+        check.due("held: layers()", heldByTheLastCrossing(true).layers(), 1);
+        check.due("not held: layers()", heldByTheLastCrossing(false).layers(), 3);
+    }
+
+    @Edge(in = "Promise 16", says = "1 if the two threads are in the same layer in every division, else 0")
+    static void togetherByTheLastCrossing(Check check) {
+        for (int t = 0; t < 7; t++) {
+            check.due("held: together(" + t + ", 7)", heldByTheLastCrossing(true).together(t, 7), 1);
+            check.due("not held: together(" + t + ", 7)", heldByTheLastCrossing(false).together(t, 7), 0);
+            check.due("not held: together(0, " + t + ")", heldByTheLastCrossing(false).together(0, t), 1);
+        }
+        check.due("held: together(7, 15)", heldByTheLastCrossing(true).together(7, 15), 1);
+        check.due("not held: together(7, 15)", heldByTheLastCrossing(false).together(7, 15), 0);
+    }
+
+    @Edge(in = "Promise 17", says = "How many sets of threads, except the empty one and that of all threads, can be lifted off")
+    static void liftsByTheLastCrossing(Check check) {
+        check.due("held: lifts()", heldByTheLastCrossing(true).lifts(), 0);
+        check.due("not held: lifts()", heldByTheLastCrossing(false).lifts(), 2);
+    }
+
+    @Edge(in = "Promise 18", says = "How many divisions there are in as many layers as layers() says")
+    static void divisionsByTheLastCrossing(Check check) {
+        check.due("held: divisions()", heldByTheLastCrossing(true).divisions(), 1);
+        check.due("not held: divisions()", heldByTheLastCrossing(false).divisions(), 1);
+    }
+
+    // Promises 14 to 18: 8 x 8, where only the last two warps and wefts hold each
+    // other. From above: 6 wefts, these four threads, 6 warps.
+
+    private static ClothDraft lastFourThreadsHeld() {
+        ClothDraft x = new ClothDraft(8, 8);
+        x.thread(6, 2);
+        x.thread(7, 1);
+        x.treadle(6, 2);
+        x.treadle(7, 1);
+        x.tie(1, 2);
+        x.tie(2, 4);
+        return x;
+    }
+
+    @Edge(in = "Promise 14", says = "1 if the cloth hangs together, else 0")
+    static void hangsIs0WhereOnlyTheLastFourThreadsHold(Check check) {
+        check.due("hangs()", lastFourThreadsHeld().hangs(), 0);
+    }
+
+    @Edge(in = "Promise 15", says = "The greatest k for which there is a division in k layers")
+    static void layersWhereOnlyTheLastFourThreadsHold(Check check) {
+        check.due("layers()", lastFourThreadsHeld().layers(), 13);
+    }
+
+    @Edge(in = "Promise 16", says = "1 if the two threads are in the same layer in every division, else 0")
+    static void togetherWhereOnlyTheLastFourThreadsHold(Check check) {
+        ClothDraft x = lastFourThreadsHeld();
+        for (int a = 0; a < 16; a++) {
+            for (int b = 0; b < 16; b++) {
+                boolean due = a == b || a % 8 >= 6 && b % 8 >= 6;
+                check.due("together(" + a + ", " + b + ")", x.together(a, b), bit(due));
+            }
+        }
+    }
+
+    @Edge(in = "Promise 17", says = "How many sets of threads, except the empty one and that of all threads, can be lifted off")
+    static void liftsWhereOnlyTheLastFourThreadsHold(Check check) {
+        check.due("lifts()", lastFourThreadsHeld().lifts(), 63 + 1 + 63 - 1);
+    }
+
+    @Edge(in = "Promise 18", says = "How many divisions there are in as many layers as layers() says")
+    static void divisionsWhereOnlyTheLastFourThreadsHold(Check check) {
+        check.due("divisions()", lastFourThreadsHeld().divisions(), 720 * 720);
+    }
+
     // Promises 14 to 18: as many layers as there can be. In a new cloth all wefts
     // are above all warps; in a stair of 8 x 8, two threads follow upon two.
 

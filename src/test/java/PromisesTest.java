@@ -25,7 +25,6 @@ public final class PromisesTest {
         promise16Together();
         promise17Lifts();
         promise18Divisions();
-        lastThreadsDecide();
         questionsChangeNothing();
         objectsAreApart();
         readmeExample();
@@ -377,32 +376,6 @@ public final class PromisesTest {
         due("divisions(): two warps, the piece, two wefts",
                 Cloths.cloth("1011", "0111", "1111", "1111").divisions(), 4);
         due("divisions(): three wefts beneath two warps", Cloths.cloth("11", "11", "11").divisions(), 12);
-    }
-
-    /** Promises 14 to 18 where the order, or the knot, is made by the last warps and wefts alone. */
-    private static void lastThreadsDecide() {
-        at = "last threads, ";
-        ClothDraft x = new ClothDraft(8, 8);
-        x.thread(7, 1);
-        x.treadle(7, 1);
-        x.tie(1, 2);
-        // From above: 7 wefts, warp 7, weft 7, 7 warps.
-        due("layers()", x.layers(), 16);
-        due("lifts()", x.lifts(), 127 + 1 + 1 + 127 - 1);
-        due("divisions()", x.divisions(), 5040 * 5040);
-        due("together(7, 15)", x.together(7, 15), 0);
-        x.thread(6, 2);
-        x.treadle(6, 2);
-        x.tie(2, 4);
-        // From above: 6 wefts, then warps and wefts 6 and 7 in one piece, then 6 warps.
-        due("layers()", x.layers(), 13);
-        due("lifts()", x.lifts(), 63 + 1 + 63 - 1);
-        due("divisions()", x.divisions(), 720 * 720);
-        due("together(7, 15)", x.together(7, 15), 1);
-        due("together(6, 7)", x.together(6, 7), 1);
-        due("together(5, 6)", x.together(5, 6), 0);
-        due("together(13, 14)", x.together(13, 14), 0);
-        due("hangs()", x.hangs(), 0);
     }
 
     private static void questionsChangeNothing() {

@@ -79,6 +79,17 @@ public final class TermsEdgeTest {
         check.refused("over(13), no weft 5", x.over(13));
     }
 
+    @Edge(in = "Terms", says = "warp c is thread c, weft r is thread 8 + r")
+    static void weft0IsThread8HoweverFewTheWarps(Check check) {
+        for (int w = 1; w <= 8; w++) {
+            ClothDraft x = new ClothDraft(w, 8);
+            check.due(w + " warps: over(8), weft 0 above all warps", x.over(8), w);
+            check.due(w + " warps: over(15), weft 7 above all warps", x.over(15), w);
+            check.due(w + " warps: over(w - 1), the last warp under all wefts", x.over(w - 1), 0);
+            check.due(w + " warps: over(w), the first weft only if w is 8", x.over(w), w == 8 ? w : -1);
+        }
+    }
+
     @Edge(in = "Terms", says = "sets of threads are sums of 2^t for their threads t")
     static void theFirstAndTheLastThreadHaveTheBits0And15(Check check) {
         ClothDraft x = new ClothDraft(8, 8);
