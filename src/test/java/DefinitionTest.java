@@ -43,6 +43,8 @@ public final class DefinitionTest {
             }
             int[] sets = due.liftableSets();
             ClothDraft cloth = weave(due);
+            compareThreads(cloth, due);
+            compareNeeds(cloth, due);
             compareCounts(cloth, sets.length - 2, Reference.divisionsByRows(sets));
             compareSomePairs(cloth, due, sets, 12);
             compareSomeSets(cloth, due, sets, 12);
@@ -157,10 +159,7 @@ public final class DefinitionTest {
     }
 
     private static void compareCounts(ClothDraft cloth, int lifts, long[] divisions) {
-        int layers = 16;
-        while (divisions[layers] == 0) {
-            layers--;
-        }
+        int layers = Due.layers(divisions);
         CHECK.due("lifts()", cloth.lifts(), lifts);
         CHECK.due("hangs()", cloth.hangs(), lifts == 0 ? 1 : 0);
         CHECK.due("layers()", cloth.layers(), layers);

@@ -1,3 +1,9 @@
+import java.util.ArrayList;
+import java.util.Arrays;
+import java.util.List;
+import java.util.function.IntBinaryOperator;
+import java.util.function.ToIntFunction;
+
 /** The boundary cases of promises 13 to 18: what can be lifted off, and the layers. */
 public final class LayerEdgeTest {
     private static final int[] FACTORIAL = {1, 1, 2, 6, 24, 120, 720, 5040, 40320};
@@ -445,7 +451,7 @@ public final class LayerEdgeTest {
     // Promises 14 to 18: as many layers as there can be. In a new cloth all wefts
     // are above all warps; in a stair of 8 x 8, two threads follow upon two.
 
-    private static void newCloths(Check check, String name, java.util.function.IntBinaryOperator due) {
+    private static void newCloths(Check check, String name, IntBinaryOperator due) {
         Call call = Call.named(name);
         for (int w = 1; w <= 8; w++) {
             for (int h = 1; h <= 8; h++) {
@@ -498,6 +504,128 @@ public final class LayerEdgeTest {
     static void divisionsInFewerLayersAreNotCounted(Check check) {
         // In one, two, three and four layers there are 1, 3, 3 and 1 divisions.
         check.due("four layers: divisions()", fourLayers().divisions(), 1);
+    }
+
+    // Promises 15 to 18: 8 warps and 8 wefts, shared out to the shafts and treadles
+    // in every way. The letters tell the threads from above: A a warp, B a weft, K
+    // all the threads of a piece that holds together. Where equal letters follow
+    // on each other, those threads cross the same others in the same way.
+
+    private interface Shared {
+        void look(int[] warps, int[] wefts);
+    }
+
+    private static void everyShare(int least, Shared shared) {
+        for (int[] warps : shares(least)) {
+            for (int[] wefts : shares(least)) {
+                shared.look(warps, wefts);
+            }
+        }
+    }
+
+    /** All ways to share 8 threads out to four, of which the first two get at least so many. */
+    private static List<int[]> shares(int least) {
+        List<int[]> found = new ArrayList<>();
+        for (int a = least; a <= 8; a++) {
+            for (int b = least; a + b <= 8; b++) {
+                for (int c = 0; a + b + c <= 8; c++) {
+                    found.add(new int[] {a, b, c, 8 - a - b - c});
+                }
+            }
+        }
+        return found;
+    }
+
+    private static void share(ClothDraft x, int[] warps, int[] wefts) {
+        int c = 0;
+        int r = 0;
+        for (int i = 0; i < 4; i++) {
+            for (int n = 0; n < warps[i]; n++) {
+                x.thread(c++, i);
+            }
+            for (int n = 0; n < wefts[i]; n++) {
+                x.treadle(r++, i);
+            }
+        }
+    }
+
+    private static ClothDraft sharedStair(int[] warps, int[] wefts) {
+        ClothDraft x = Cloths.stair(8, 8);
+        share(x, warps, wefts);
+        return x;
+    }
+
+    private static String stairFromAbove(int[] warps, int[] wefts) {
+        StringBuilder text = new StringBuilder();
+        for (int i = 3; i >= 0; i--) {
+            text.append("A".repeat(warps[i])).append("B".repeat(wefts[i]));
+        }
+        return text.toString();
+    }
+
+    /** The threads on shafts 0 and 1 and with treadles 0 and 1 hold each other; there is at least one of each. */
+    private static ClothDraft sharedPiece(int[] warps, int[] wefts) {
+        ClothDraft x = Cloths.straight(8, 8, 9, 10, 0, 11);
+        share(x, warps, wefts);
+        return x;
+    }
+
+    private static String pieceFromAbove(int[] warps, int[] wefts) {
+        return "B".repeat(wefts[2]) + "A".repeat(warps[3]) + "K" + "B".repeat(wefts[3]) + "A".repeat(warps[2]);
+    }
+
+    private static void everyLayering(Check check, String name, ToIntFunction<String> due) {
+        Call call = Call.named(name);
+        everyShare(0, (warps, wefts) -> {
+            String fromAbove = stairFromAbove(warps, wefts);
+            check.due(fromAbove + ": " + name + "()", call.on(sharedStair(warps, wefts), 0, 0), due.applyAsInt(fromAbove));
+        });
+        everyShare(1, (warps, wefts) -> {
+            String fromAbove = pieceFromAbove(warps, wefts);
+            check.due(fromAbove + ": " + name + "()", call.on(sharedPiece(warps, wefts), 0, 0), due.applyAsInt(fromAbove));
+        });
+    }
+
+    /** How many equal letters follow on each other, from above. */
+    private static int[] levels(String fromAbove) {
+        return Arrays.stream(fromAbove.split("(?<=A)(?!A)|(?<=B)(?!B)|(?<=K)")).mapToInt(String::length).toArray();
+    }
+
+    @Edge(in = "Promise 14", says = "1 if the cloth hangs together, else 0")
+    static void hangsOfEveryLayering(Check check) {
+        everyLayering(check, "hangs", fromAbove -> bit(fromAbove.equals("K")));
+    }
+
+    @Edge(in = "Promise 15", says = "The greatest k for which there is a division in k layers")
+    static void layersOfEveryLayering(Check check) {
+        everyLayering(check, "layers", String::length);
+    }
+
+    @Edge(in = "Promise 16", says = "1 if the two threads are in the same layer in every division, else 0")
+    static void togetherInAPieceBetweenOtherThreads(Check check) {
+        everyShare(1, (warps, wefts) -> {
+            ClothDraft x = sharedPiece(warps, wefts);
+            for (int a = 0; a < 16; a++) {
+                for (int b = 0; b < 16; b++) {
+                    boolean due = a == b || isInPiece(a, warps, wefts) && isInPiece(b, warps, wefts);
+                    check.due("together(" + a + ", " + b + ")", x.together(a, b), bit(due));
+                }
+            }
+        });
+    }
+
+    private static boolean isInPiece(int thread, int[] warps, int[] wefts) {
+        return thread < 8 ? thread < warps[0] + warps[1] : thread - 8 < wefts[0] + wefts[1];
+    }
+
+    @Edge(in = "Promise 17", says = "How many sets of threads, except the empty one and that of all threads, can be lifted off")
+    static void liftsOfEveryLayering(Check check) {
+        everyLayering(check, "lifts", fromAbove -> Arrays.stream(levels(fromAbove)).map(n -> (1 << n) - 1).sum() - 1);
+    }
+
+    @Edge(in = "Promise 18", says = "How many divisions there are in as many layers as layers() says")
+    static void divisionsOfEveryLayering(Check check) {
+        everyLayering(check, "divisions", fromAbove -> Arrays.stream(levels(fromAbove)).map(n -> FACTORIAL[n]).reduce(1, (m, n) -> m * n));
     }
 
     // Promise 16: which threads are there

@@ -27,7 +27,6 @@ public final class PromisesTest {
         promise18Divisions();
         questionsChangeNothing();
         objectsAreApart();
-        readmeExample();
         CHECK.finish();
     }
 
@@ -410,23 +409,6 @@ public final class PromisesTest {
         x.threadAll(1, 1);
         due("state of the other", Cloths.state(y), "000 0 0 0 0 0");
         due("state of the one", Cloths.state(x), "12 00 15 15 15 15");
-    }
-
-    private static void readmeExample() {
-        at = "README, ";
-        ClothDraft cloth = new ClothDraft(4, 4);
-        cloth.threadAll(0, 1);
-        cloth.treadleAll(0, 1);
-        for (int treadle = 0; treadle < 4; treadle++) {
-            cloth.tie(treadle, treadle % 2 == 0 ? 5 : 10);
-        }
-        due("above(0, 0)", cloth.above(0, 0), 1);
-        due("longest(8)", cloth.longest(8), 1);
-        due("shafts()", cloth.shafts(), 2);
-        due("hangs()", cloth.hangs(), 1);
-        due("tie(0, 15)", cloth.tie(0, 15), 5);
-        due("hangs()", cloth.hangs(), 0);
-        due("thread(4, 0)", cloth.thread(4, 0), BAD);
     }
 
     private static void due(String call, Object got, Object want) {

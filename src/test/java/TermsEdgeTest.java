@@ -105,6 +105,41 @@ public final class TermsEdgeTest {
         check.due("liftable(16384), weft 6 under all warps", y.liftable(16384), 0);
     }
 
+    @Edge(in = "Terms", says = "Each warp is THREADED on one of the SHAFTS 0 to 3")
+    static void aWarpIsOnOneShaftAtATime(Check check) {
+        ClothDraft x = Cloths.straight(1, 4, 1, 2, 4, 8);
+        for (int shaft : new int[] {0, 3, 1, 2, 0}) {
+            x.thread(0, shaft);
+            for (int r = 0; r < 4; r++) {
+                check.due("on shaft " + shaft + ": above(0, " + r + ")", x.above(0, r), r == shaft ? 1 : 0);
+            }
+        }
+    }
+
+    @Edge(in = "Terms", says = "each weft is TREADLED with one of the TREADLES 0 to 3")
+    static void aWeftIsWithOneTreadleAtATime(Check check) {
+        ClothDraft x = Cloths.straight(4, 1, 1, 2, 4, 8);
+        for (int treadle : new int[] {0, 3, 1, 2, 0}) {
+            x.treadle(0, treadle);
+            for (int c = 0; c < 4; c++) {
+                check.due("with treadle " + treadle + ": above(" + c + ", 0)", x.above(c, 0), c == treadle ? 1 : 0);
+            }
+        }
+    }
+
+    @Edge(in = "Terms", says = "each treadle is TIED to some of the shafts")
+    static void aTreadleMayBeTiedToAnySetOfShafts(Check check) {
+        String[] due = {"0000", "1000", "0100", "1100", "0010", "1010", "0110", "1110",
+            "0001", "1001", "0101", "1101", "0011", "1011", "0111", "1111"};
+        for (int set = 0; set < 16; set++) {
+            ClothDraft x = Cloths.straight(4, 4, set, 15 - set, set, set);
+            check.due("tie(0, " + set + "), weft 0", Cloths.weft(x, 0, 4), due[set]);
+            check.due("tie(1, " + (15 - set) + "), weft 1", Cloths.weft(x, 1, 4), due[15 - set]);
+            check.due("tie(2, " + set + "), weft 2", Cloths.weft(x, 2, 4), due[set]);
+            check.due("tie(3, " + set + "), weft 3", Cloths.weft(x, 3, 4), due[set]);
+        }
+    }
+
     @Edge(in = "Terms", says = "the warp is ABOVE the weft if the treadle of the weft is tied to the shaft of the warp")
     static void oneTieRaisesJustTheWarpsOfItsShaft(Check check) {
         for (int treadle = 0; treadle < 4; treadle++) {

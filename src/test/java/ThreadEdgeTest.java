@@ -65,7 +65,49 @@ public final class ThreadEdgeTest {
         check.due("above(7, 7)", x.above(7, 7), 0);
     }
 
+    @Edge(in = "Promise 8", says = "1 if warp c is above weft r, 0 if not")
+    static void aboveAnswersAtEveryCrossing(Check check) {
+        for (int c = 0; c < 8; c++) {
+            for (int r = 0; r < 8; r++) {
+                ClothDraft x = new ClothDraft(8, 8);
+                x.thread(c, 1);
+                x.treadle(r, 2);
+                x.tie(2, 2);
+                check.due("above(" + c + ", " + r + "), the one tie", x.above(c, r), 1);
+                check.due("warps above weft " + r, 8 - x.over(8 + r), 1);
+                check.due("wefts under warp " + c, x.over(c), 1);
+                x.invert();
+                check.due("above(" + c + ", " + r + "), all ties but one", x.above(c, r), 0);
+            }
+        }
+    }
+
     // Promises 9 and 10
+
+    /** One warp and one weft, each above just those of the others that the pattern tells with a 1. */
+    private interface OnePattern {
+        void look(ClothDraft oneWarp, ClothDraft oneWeft, String pattern);
+    }
+
+    /** One thread that crosses 1 to 8 others, above them and under them in every way. */
+    private static void everyPattern(OnePattern look) {
+        for (int n = 1; n <= 8; n++) {
+            for (int above = 0; above < 1 << n; above++) {
+                ClothDraft oneWarp = new ClothDraft(1, n);
+                ClothDraft oneWeft = new ClothDraft(n, 1);
+                oneWarp.tie(1, 1);
+                oneWeft.tie(0, 1);
+                StringBuilder pattern = new StringBuilder();
+                for (int i = 0; i < n; i++) {
+                    int isAbove = above >> i & 1;
+                    oneWarp.treadle(i, isAbove);
+                    oneWeft.thread(i, isAbove);
+                    pattern.append(isAbove);
+                }
+                look.look(oneWarp, oneWeft, pattern.toString());
+            }
+        }
+    }
 
     /** Each number near a thread is answered just when there is that thread, at every size. */
     private static void threads(Check check, String name, int from, int to) {
@@ -143,6 +185,18 @@ public final class ThreadEdgeTest {
         check.due("longest(8), in the middle", Cloths.cloth("0110").longest(8), 2);
     }
 
+    @Edge(in = "Promise 9", says = "The number of crossings in the longest float of the thread")
+    static void longestOfEveryRowOfCrossings(Check check) {
+        everyPattern((oneWarp, oneWeft, pattern) -> {
+            int due = 0;
+            for (int n = 1; n <= pattern.length(); n++) {
+                due = pattern.contains("0".repeat(n)) || pattern.contains("1".repeat(n)) ? n : due;
+            }
+            check.due("a warp, above at " + pattern + ": longest(0)", oneWarp.longest(0), due);
+            check.due("a weft, above at " + pattern + ": longest(8)", oneWeft.longest(8), due);
+        });
+    }
+
     @Edge(in = "Promise 10", says = "BAD_ARG if there is no such thread")
     static void overRefusesAThreadBelow0(Check check) {
         threads(check, "over", -3, 0);
@@ -181,6 +235,15 @@ public final class ThreadEdgeTest {
             x.invert();
             check.due("over(0), over all wefts but " + (n - 1), x.over(0), 9 - n);
         }
+    }
+
+    @Edge(in = "Promise 10", says = "How many threads the thread is above")
+    static void overOfEveryRowOfCrossings(Check check) {
+        everyPattern((oneWarp, oneWeft, pattern) -> {
+            int due = pattern.replace("0", "").length();
+            check.due("a warp, above at " + pattern + ": over(0)", oneWarp.over(0), due);
+            check.due("a weft, above at " + pattern + ": over(8)", oneWeft.over(8), due);
+        });
     }
 
     // Promise 11
