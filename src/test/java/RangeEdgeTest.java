@@ -114,12 +114,15 @@ public final class RangeEdgeTest {
     private static void withoutArguments(Check check, String name) {
         Call call = Call.named(name);
         atEverySize((w, h) -> {
-            ClothDraft x = cloth(w, h);
-            Due due = due(w, h);
-            ask(check, x, due, call, 0, 0);
-            ask(check, x, due, Call.named("invert"), 0, 0);
-            ask(check, x, due, call, 0, 0);
-            readBack(check, x, due);
+            for (int turns = 0; turns < 2; turns++) {
+                ClothDraft x = cloth(w, h);
+                Due due = due(w, h);
+                for (int i = 0; i < turns; i++) {
+                    ask(check, x, due, Call.named("invert"), 0, 0);
+                }
+                ask(check, x, due, call, 0, 0);
+                readBack(check, x, due);
+            }
         });
     }
 

@@ -30,6 +30,10 @@ public final class RunEdgeTest {
         Call call = Call.ALL.get(next(Call.ALL.size()));
         int a = call.name().equals("liftable") ? next(1 << 16) & next(1 << 16) : nextArgument();
         int b = nextArgument();
+        ask(check, at, x, due, call, a, b);
+    }
+
+    private static void ask(Check check, String at, ClothDraft x, Due due, Call call, int a, int b) {
         check.due(at + call.with(a, b), call.on(x, a, b), due.answer(call, a, b));
     }
 
@@ -58,12 +62,50 @@ public final class RunEdgeTest {
                 if (place % 2 == 0) {
                     due.answer(Call.named("invert"), 0, 0);
                 }
-                check.due("call " + place + ", " + call.with(1, 1), call.on(x, 1, 1), due.answer(call, 1, 1));
-                for (int i = 0; i < Math.min(4, CALLS - place); i++) {
-                    Call tie = Call.named("tie");
-                    check.due("after it, " + tie.with(i, 5), tie.on(x, i, 5), due.answer(tie, i, 5));
-                }
+                ask(check, "call " + place + ", ", x, due, call, 1, 1);
+                readBack(check, "after call " + place + ", ", x, due, CALLS - place);
             }
+        }
+    }
+
+    /** The count of all ties comes first: it shows a change even where but one call is left. */
+    private static void readBack(Check check, String at, ClothDraft x, Due due, int callsLeft) {
+        int left = callsLeft;
+        for (String name : List.of("invert", "tie", "thread", "treadle")) {
+            for (int i = 0; i < (name.equals("invert") ? 1 : 8) && left > 0; i++) {
+                ask(check, at, x, due, Call.named(name), i, 3);
+                left--;
+            }
+        }
+    }
+
+    @Edge(in = "Not promised", says = "Nothing is promised beyond the answers and state changes described above")
+    static void aCallDoesJustWhatIsSaidWhateverTheSettings(Check check) {
+        for (int i = 0; i < 8; i++) {
+            for (int value = 0; value < 16; value++) {
+                afterOneSetting(check, 3, 3, "tie", i, value);
+                afterOneSetting(check, 8, 2, "thread", i, value);
+                afterOneSetting(check, 2, 8, "treadle", i, value);
+            }
+        }
+    }
+
+    /** Settings that are refused are left out: the cloth would be the same each time. */
+    private static void afterOneSetting(Check check, int w, int h, String name, int of, int value) {
+        if (new Due(w, h).answer(Call.named(name), of, value) == ClothDraft.BAD_ARG) {
+            return;
+        }
+        for (Call call : Call.ALL) {
+            ClothDraft x = new ClothDraft(w, h);
+            Due due = new Due(w, h);
+            String at = w + " x " + h + ", ";
+            ask(check, at, x, due, Call.named("threadAll"), 0, 1);
+            ask(check, at, x, due, Call.named("treadleAll"), 1, 1);
+            ask(check, at, x, due, Call.named("tie"), 1, 5);
+            ask(check, at, x, due, Call.named(name), of, value);
+            at += Call.named(name).with(of, value) + ", ";
+            ask(check, at, x, due, call, 1, 1);
+            readBack(check, at + call.with(1, 1) + ", ", x, due, CALLS - 5);
         }
     }
 
